@@ -134,13 +134,11 @@ public final class ChromaticSearch {
             return BAD;
         }
         copyLinks();
-        // Once u and v are joined to the same points, v can always take the colour of u.
+        // Once v is joined to all that u is joined to, u can always take the colour of v; and a colouring that gives
+        // them the same colour stays one.
         for (int q = 0; q < size; q++) {
             if (isJoined(u, q)) {
                 linkTrial(v, q);
-            }
-            if (isJoined(v, q)) {
-                linkTrial(u, q);
             }
         }
         return leastColours();
