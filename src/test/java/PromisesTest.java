@@ -21,42 +21,6 @@ public final class PromisesTest {
         check.finish();
     }
 
-    private static ChromaticSearch graph(int points, int... ends) {
-        ChromaticSearch x = new ChromaticSearch(points);
-        for (int i = 0; i + 1 < ends.length; i += 2) {
-            check.due("graph: join", x.join(ends[i], ends[i + 1], true), true);
-        }
-        return x;
-    }
-
-    private static ChromaticSearch ring(int points) {
-        ChromaticSearch x = new ChromaticSearch(points);
-        for (int p = 0; p < points; p++) {
-            x.join(p, (p + 1) % points, true);
-        }
-        return x;
-    }
-
-    private static ChromaticSearch complete(int points) {
-        ChromaticSearch x = new ChromaticSearch(points);
-        for (int p = 0; p < points; p++) {
-            for (int q = 0; q < p; q++) {
-                x.join(p, q, true);
-            }
-        }
-        return x;
-    }
-
-    /** A middle point, the last one, joined to every point of a ring of the others. */
-    private static ChromaticSearch wheel(int points) {
-        ChromaticSearch x = new ChromaticSearch(points);
-        for (int p = 0; p < points - 1; p++) {
-            x.join(p, (p + 1) % (points - 1), true);
-            x.join(p, points - 1, true);
-        }
-        return x;
-    }
-
     private static void colours(String name, ChromaticSearch x, int... want) {
         for (int p = 0; p < want.length; p++) {
             check.due("4 " + name + ": colour(" + p + ")", x.colour(p), want[p]);
@@ -108,7 +72,7 @@ public final class PromisesTest {
         check.due("2 join 3, second", x.join(0, 3, true), false);
         check.due("2 refusals change nothing: chromatic", x.chromatic(), 1);
         check.due("2 refusals change nothing: free", x.free(), 3);
-        ChromaticSearch full = complete(3);
+        ChromaticSearch full = Graphs.complete(3);
         for (int p : FAR) {
             check.due("2 part far, first", full.join(p, 0, false), false);
             check.due("2 part far, second", full.join(1, p, false), false);
@@ -118,18 +82,18 @@ public final class PromisesTest {
 
     private static void chromatic() {
         for (int n = 1; n <= 8; n++) {
-            check.due("3 complete " + n, complete(n).chromatic(), n);
+            check.due("3 complete " + n, Graphs.complete(n).chromatic(), n);
         }
         for (int n = 3; n <= 8; n++) {
-            check.due("3 ring " + n, ring(n).chromatic(), n % 2 == 0 ? 2 : 3);
+            check.due("3 ring " + n, Graphs.ring(n).chromatic(), n % 2 == 0 ? 2 : 3);
         }
-        check.due("3 wheel of 6", wheel(6).chromatic(), 4);
-        check.due("3 wheel of 7", wheel(7).chromatic(), 3);
-        check.due("3 one join among 8", graph(8, 6, 7).chromatic(), 2);
+        check.due("3 wheel of 6", Graphs.wheel(6).chromatic(), 4);
+        check.due("3 wheel of 7", Graphs.wheel(7).chromatic(), 3);
+        check.due("3 one join among 8", Graphs.of(8, 6, 7).chromatic(), 2);
         // A first fit in the order of the points would spend three colours here.
-        check.due("3 path 0 2 3 1", graph(4, 0, 2, 2, 3, 3, 1).chromatic(), 2);
+        check.due("3 path 0 2 3 1", Graphs.of(4, 0, 2, 2, 3, 3, 1).chromatic(), 2);
         // More colours than the largest clique has points.
-        ChromaticSearch y = graph(7, 0, 1, 1, 2, 2, 3, 3, 4, 4, 0, 5, 6);
+        ChromaticSearch y = Graphs.of(7, 0, 1, 1, 2, 2, 3, 3, 4, 4, 0, 5, 6);
         for (int p = 0; p < 5; p++) {
             y.join(p, 5, true);
             y.join(p, 6, true);
@@ -139,16 +103,16 @@ public final class PromisesTest {
     }
 
     private static void colour() {
-        colours("ring 5", ring(5), 0, 1, 0, 1, 2);
-        colours("ring 8", ring(8), 0, 1, 0, 1, 0, 1, 0, 1);
-        colours("complete 8", complete(8), 0, 1, 2, 3, 4, 5, 6, 7);
+        colours("ring 5", Graphs.ring(5), 0, 1, 0, 1, 2);
+        colours("ring 8", Graphs.ring(8), 0, 1, 0, 1, 0, 1, 0, 1);
+        colours("complete 8", Graphs.complete(8), 0, 1, 2, 3, 4, 5, 6, 7);
         colours("no joins", new ChromaticSearch(4), 0, 0, 0, 0);
         // A first fit would give point 1 the colour 0, and then three colours are spent.
-        colours("path 0 2 3 1", graph(4, 0, 2, 2, 3, 3, 1), 0, 1, 1, 0);
-        colours("wheel of 6", wheel(6), 0, 1, 0, 1, 2, 3);
+        colours("path 0 2 3 1", Graphs.of(4, 0, 2, 2, 3, 3, 1), 0, 1, 1, 0);
+        colours("wheel of 6", Graphs.wheel(6), 0, 1, 0, 1, 2, 3);
         // The points that are joined come last.
-        colours("one join among 8", graph(8, 6, 7), 0, 0, 0, 0, 0, 0, 0, 1);
-        ChromaticSearch x = ring(5);
+        colours("one join among 8", Graphs.of(8, 6, 7), 0, 0, 0, 0, 0, 0, 0, 1);
+        ChromaticSearch x = Graphs.ring(5);
         for (int p : FAR) {
             check.due("4 colour(" + p + ")", x.colour(p), -1);
         }
@@ -161,60 +125,60 @@ public final class PromisesTest {
         int factorial = 1;
         for (int n = 1; n <= 8; n++) {
             factorial *= n;
-            check.due("5 complete " + n, complete(n).ways(), factorial);
+            check.due("5 complete " + n, Graphs.complete(n).ways(), factorial);
         }
         check.due("5 no joins", new ChromaticSearch(8).ways(), 1);
-        check.due("5 ring 4", ring(4).ways(), 2);
-        check.due("5 ring 5", ring(5).ways(), 30);
-        check.due("5 ring 7", ring(7).ways(), 126);
-        check.due("5 one join among 8", graph(8, 0, 1).ways(), 128);
-        check.due("5 triangle among 8", graph(8, 0, 1, 1, 2, 0, 2).ways(), 6 * 243);
-        check.due("5 four complete among 8", graph(8, 0, 1, 0, 2, 0, 3, 1, 2, 1, 3, 2, 3).ways(), 24 * 256);
+        check.due("5 ring 4", Graphs.ring(4).ways(), 2);
+        check.due("5 ring 5", Graphs.ring(5).ways(), 30);
+        check.due("5 ring 7", Graphs.ring(7).ways(), 126);
+        check.due("5 one join among 8", Graphs.of(8, 0, 1).ways(), 128);
+        check.due("5 triangle among 8", Graphs.of(8, 0, 1, 1, 2, 0, 2).ways(), 6 * 243);
+        check.due("5 four complete among 8", Graphs.of(8, 0, 1, 0, 2, 0, 3, 1, 2, 1, 3, 2, 3).ways(), 24 * 256);
     }
 
     private static void clique() {
         for (int n = 1; n <= 8; n++) {
-            check.due("6 complete " + n, complete(n).clique(), n);
+            check.due("6 complete " + n, Graphs.complete(n).clique(), n);
             check.due("6 no joins " + n, new ChromaticSearch(n).clique(), 1);
         }
-        check.due("6 ring 5", ring(5).clique(), 2);
-        check.due("6 wheel of 6", wheel(6).clique(), 3);
-        check.due("6 two triangles", graph(6, 0, 1, 1, 2, 2, 0, 3, 4, 4, 5, 5, 3).clique(), 3);
-        check.due("6 square with one diagonal", graph(4, 0, 1, 1, 2, 2, 3, 3, 0, 1, 3).clique(), 3);
+        check.due("6 ring 5", Graphs.ring(5).clique(), 2);
+        check.due("6 wheel of 6", Graphs.wheel(6).clique(), 3);
+        check.due("6 two triangles", Graphs.of(6, 0, 1, 1, 2, 2, 0, 3, 4, 4, 5, 5, 3).clique(), 3);
+        check.due("6 square with one diagonal", Graphs.of(4, 0, 1, 1, 2, 2, 3, 3, 0, 1, 3).clique(), 3);
     }
 
     private static void cliqueSet() {
         check.due("7 one point", new ChromaticSearch(1).cliqueSet(), 1);
         check.due("7 no joins", new ChromaticSearch(8).cliqueSet(), 1);
-        check.due("7 complete 8", complete(8).cliqueSet(), 255);
-        check.due("7 one join among 8", graph(8, 6, 7).cliqueSet(), 192);
-        check.due("7 smallest number, not smallest point", graph(8, 0, 7, 3, 4).cliqueSet(), 24);
-        check.due("7 larger before smaller number", graph(8, 0, 1, 5, 6, 6, 7, 7, 5).cliqueSet(), 224);
-        check.due("7 wheel of 6", wheel(6).cliqueSet(), 35);
-        check.due("7 square with one diagonal", graph(4, 0, 1, 1, 2, 2, 3, 3, 0, 1, 3).cliqueSet(), 11);
+        check.due("7 complete 8", Graphs.complete(8).cliqueSet(), 255);
+        check.due("7 one join among 8", Graphs.of(8, 6, 7).cliqueSet(), 192);
+        check.due("7 smallest number, not smallest point", Graphs.of(8, 0, 7, 3, 4).cliqueSet(), 24);
+        check.due("7 larger before smaller number", Graphs.of(8, 0, 1, 5, 6, 6, 7, 7, 5).cliqueSet(), 224);
+        check.due("7 wheel of 6", Graphs.wheel(6).cliqueSet(), 35);
+        check.due("7 square with one diagonal", Graphs.of(4, 0, 1, 1, 2, 2, 3, 3, 0, 1, 3).cliqueSet(), 11);
     }
 
     private static void free() {
         for (int n = 1; n <= 8; n++) {
-            check.due("8 complete " + n, complete(n).free(), 1);
+            check.due("8 complete " + n, Graphs.complete(n).free(), 1);
             check.due("8 no joins " + n, new ChromaticSearch(n).free(), n);
         }
-        check.due("8 ring 5", ring(5).free(), 2);
-        check.due("8 ring 8", ring(8).free(), 4);
-        check.due("8 star", graph(6, 5, 0, 5, 1, 5, 2, 5, 3, 5, 4).free(), 5);
-        check.due("8 one join among 8", graph(8, 6, 7).free(), 7);
+        check.due("8 ring 5", Graphs.ring(5).free(), 2);
+        check.due("8 ring 8", Graphs.ring(8).free(), 4);
+        check.due("8 star", Graphs.of(6, 5, 0, 5, 1, 5, 2, 5, 3, 5, 4).free(), 5);
+        check.due("8 one join among 8", Graphs.of(8, 6, 7).free(), 7);
     }
 
     private static void needed() {
         check.due("9 the only point", new ChromaticSearch(1).needed(0), true);
         check.due("9 two apart", new ChromaticSearch(2).needed(0), false);
-        check.due("9 two joined", graph(2, 0, 1).needed(1), true);
+        check.due("9 two joined", Graphs.of(2, 0, 1).needed(1), true);
         for (int p = 0; p < 7; p++) {
-            check.due("9 ring 7", ring(7).needed(p), true);
-            check.due("9 ring 6", ring(6).needed(p), false);
-            check.due("9 complete 7", complete(7).needed(p), true);
+            check.due("9 ring 7", Graphs.ring(7).needed(p), true);
+            check.due("9 ring 6", Graphs.ring(6).needed(p), false);
+            check.due("9 complete 7", Graphs.complete(7).needed(p), true);
         }
-        ChromaticSearch x = graph(5, 0, 1, 1, 2, 2, 0, 2, 3);
+        ChromaticSearch x = Graphs.of(5, 0, 1, 1, 2, 2, 0, 2, 3);
         boolean[] want = {true, true, true, false, false};
         for (int p = 0; p < 5; p++) {
             check.due("9 triangle with a tail: needed(" + p + ")", x.needed(p), want[p]);
@@ -230,19 +194,19 @@ public final class PromisesTest {
     }
 
     private static void tight() {
-        ChromaticSearch x = graph(5, 0, 1, 1, 2, 2, 0, 2, 3);
+        ChromaticSearch x = Graphs.of(5, 0, 1, 1, 2, 2, 0, 2, 3);
         check.due("10 in the triangle", x.tight(0, 1), true);
         check.due("10 the other way round", x.tight(1, 0), true);
         check.due("10 the tail", x.tight(2, 3), false);
         check.due("10 not joined", x.tight(3, 4), false);
         check.due("10 a point and itself", x.tight(1, 1), false);
         check.due("10 one point", new ChromaticSearch(1).tight(0, 0), false);
-        check.due("10 two joined", graph(2, 0, 1).tight(0, 1), true);
+        check.due("10 two joined", Graphs.of(2, 0, 1).tight(0, 1), true);
         check.due("10 two apart", new ChromaticSearch(2).tight(0, 1), false);
-        check.due("10 two pairs", graph(4, 0, 1, 2, 3).tight(0, 1), false);
-        check.due("10 ring 7", ring(7).tight(6, 0), true);
-        check.due("10 ring 8", ring(8).tight(7, 0), false);
-        check.due("10 complete 8", complete(8).tight(3, 7), true);
+        check.due("10 two pairs", Graphs.of(4, 0, 1, 2, 3).tight(0, 1), false);
+        check.due("10 ring 7", Graphs.ring(7).tight(6, 0), true);
+        check.due("10 ring 8", Graphs.ring(8).tight(7, 0), false);
+        check.due("10 complete 8", Graphs.complete(8).tight(3, 7), true);
         for (int p : FAR) {
             check.due("10 far, first", x.tight(p, 1), false);
             check.due("10 far, second", x.tight(1, p), false);
@@ -257,11 +221,11 @@ public final class PromisesTest {
     private static void same() {
         check.due("11 one point", new ChromaticSearch(1).same(0, 0), true);
         check.due("11 no joins", new ChromaticSearch(8).same(0, 7), true);
-        check.due("11 ring 6, two apart", ring(6).same(1, 5), true);
-        check.due("11 ring 6, three apart", ring(6).same(1, 4), false);
-        check.due("11 ring 6, joined", ring(6).same(0, 1), false);
-        check.due("11 ring 5", ring(5).same(0, 2), false);
-        ChromaticSearch x = graph(5, 0, 1, 1, 2, 2, 0, 1, 3, 2, 3);
+        check.due("11 ring 6, two apart", Graphs.ring(6).same(1, 5), true);
+        check.due("11 ring 6, three apart", Graphs.ring(6).same(1, 4), false);
+        check.due("11 ring 6, joined", Graphs.ring(6).same(0, 1), false);
+        check.due("11 ring 5", Graphs.ring(5).same(0, 2), false);
+        ChromaticSearch x = Graphs.of(5, 0, 1, 1, 2, 2, 0, 1, 3, 2, 3);
         check.due("11 two triangles on one side", x.same(0, 3), true);
         check.due("11 the other way round", x.same(3, 0), true);
         check.due("11 a loose point", x.same(0, 4), false);
@@ -283,19 +247,19 @@ public final class PromisesTest {
     private static void together() {
         check.due("12 one point", new ChromaticSearch(1).together(0, 0), 1);
         check.due("12 no joins", new ChromaticSearch(8).together(0, 7), 1);
-        check.due("12 joined", ring(6).together(5, 0), -1);
-        check.due("12 ring 6, two apart", ring(6).together(0, 2), 2);
-        check.due("12 ring 6, three apart", ring(6).together(0, 3), 3);
-        check.due("12 path of 4 from end to end", graph(4, 0, 1, 1, 2, 2, 3).together(0, 3), 3);
-        check.due("12 a point and itself", ring(5).together(3, 3), 3);
-        check.due("12 a point and itself, complete", complete(8).together(3, 3), 8);
+        check.due("12 joined", Graphs.ring(6).together(5, 0), -1);
+        check.due("12 ring 6, two apart", Graphs.ring(6).together(0, 2), 2);
+        check.due("12 ring 6, three apart", Graphs.ring(6).together(0, 3), 3);
+        check.due("12 path of 4 from end to end", Graphs.of(4, 0, 1, 1, 2, 2, 3).together(0, 3), 3);
+        check.due("12 a point and itself", Graphs.ring(5).together(3, 3), 3);
+        check.due("12 a point and itself, complete", Graphs.complete(8).together(3, 3), 8);
         // Triangles 1 2 3 and 2 3 4 side by side, with a tail at each end.
-        ChromaticSearch x = graph(6, 0, 1, 1, 2, 3, 4, 4, 5, 2, 3, 2, 4, 1, 3);
+        ChromaticSearch x = Graphs.of(6, 0, 1, 1, 2, 3, 4, 4, 5, 2, 3, 2, 4, 1, 3);
         check.due("12 a strip: chromatic", x.chromatic(), 3);
         check.due("12 a strip: 1 and 4", x.together(1, 4), 3);
         check.due("12 a strip: 0 and 4", x.together(0, 4), 4);
         // Merged, points 0 and 7 close a complete graph of 4.
-        ChromaticSearch y = graph(8, 1, 2, 2, 3, 3, 1, 0, 1, 0, 2, 7, 3);
+        ChromaticSearch y = Graphs.of(8, 1, 2, 2, 3, 3, 1, 0, 1, 0, 2, 7, 3);
         check.due("12 two halves: chromatic", y.chromatic(), 3);
         check.due("12 two halves: 0 and 7", y.together(0, 7), 4);
         check.due("12 two halves: 7 and 0", y.together(7, 0), 4);
@@ -324,7 +288,7 @@ public final class PromisesTest {
             check.due("13 turned twice: chromatic", x.chromatic(), 1);
             check.due("13 turned twice: free", x.free(), n);
         }
-        ChromaticSearch x = graph(4, 0, 1, 1, 2, 2, 3);
+        ChromaticSearch x = Graphs.of(4, 0, 1, 1, 2, 2, 3);
         x.turn();
         check.due("13 path turned: 0 and 1", x.together(0, 1), 2);
         check.due("13 path turned: 0 and 2", x.together(0, 2), -1);
