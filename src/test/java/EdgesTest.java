@@ -1,6 +1,7 @@
 /**
- * A test for each sentence of the document that names a boundary; the answers are worked out by hand. It is completed by
- * EmptyAndFullTest (no two points joined, any two joined) and RefusedCallsTest (what a refused call leaves alone).
+ * A test for each sentence of the document that names a boundary; the answers are worked out by hand.
+ * EmptyAndFullTest (no two points joined, any two joined) and RefusedCallsTest (what a refused call leaves alone) add
+ * to it.
  */
 public final class EdgesTest {
     private static final int BAD = ChromaticSearch.BAD;
