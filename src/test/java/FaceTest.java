@@ -32,7 +32,26 @@ public final class FaceTest {
         for (String member : got) {
             check.due(member, want.contains(member), true);
         }
+        check.due("BAD", ChromaticSearch.BAD, -1);
+        nothingElse(check);
         check.finish();
+    }
+
+    /** LANGUAGE.md, rule 1: one class, and no private method that bears the name of a public one. */
+    private static void nothingElse(Check check) {
+        Class<?> type = ChromaticSearch.class;
+        check.due("extends Object alone", type.getSuperclass() == Object.class, true);
+        check.due("interfaces", type.getInterfaces().length, 0);
+        check.due("nested classes", type.getDeclaredClasses().length, 0);
+        Set<String> open = new TreeSet<>();
+        for (Method method : type.getMethods()) {
+            open.add(method.getName());
+        }
+        for (Method method : type.getDeclaredMethods()) {
+            if (Modifier.isPrivate(method.getModifiers())) {
+                check.due("private " + method.getName() + " has a public name", open.contains(method.getName()), false);
+            }
+        }
     }
 
     private static Set<String> face() {

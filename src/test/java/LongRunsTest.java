@@ -5,24 +5,29 @@ public final class LongRunsTest {
     private static final Check check = new Check();
 
     public static void main(String[] args) {
-        for (int seed = 0; seed < 48; seed++) {
-            run(seed, seed % 12 - 2);
+        int seed = 0;
+        for (int points = -1; points <= 10; points++) {
+            for (int density = 0; density <= 8; density++) {
+                run(seed, points, density);
+                seed++;
+            }
         }
         check.finish();
     }
 
-    private static void run(int seed, int points) {
+    /** Of eight joins as many as dense says join and the others part; after a turn it is the other way round. */
+    private static void run(int seed, int points, int dense) {
         // The seed is fixed, so every run of the tests makes the same calls.
         Random random = new Random(seed);
         ChromaticSearch x = new ChromaticSearch(points);
         PlainGraph plain = new PlainGraph(points);
+        int density = dense;
         for (int call = 0; call < 512; call++) {
             String name = "seed " + seed + ", call " + call + ": ";
             int u = number(random, plain.n);
             int v = number(random, plain.n);
-            // With six colours or more the literal search takes long, so such graphs are thinned out.
-            boolean joined = random.nextInt(8) < 5 && (plain.n < 7 || plain.clique() < 5);
-            switch (random.nextInt(16)) {
+            boolean joined = random.nextInt(8) < density;
+            switch (random.nextInt(24)) {
                 case 0: check.due(name + "chromatic", x.chromatic(), plain.chromatic()); break;
                 case 1: check.due(name + "colour " + u, x.colour(u), plain.colour(u)); break;
                 case 2: check.due(name + "ways", x.ways(), plain.ways()); break;
@@ -34,10 +39,9 @@ public final class LongRunsTest {
                 case 8: check.due(name + "same " + u + " " + v, x.same(u, v), plain.same(u, v)); break;
                 case 9: check.due(name + "together " + u + " " + v, x.together(u, v), plain.together(u, v)); break;
                 case 10:
-                    if (plain.n < 7 || plain.free() < 6) {
-                        x.turn();
-                        plain.turn();
-                    }
+                    x.turn();
+                    plain.turn();
+                    density = 8 - density;
                     break;
                 default:
                     check.due(name + "join " + u + " " + v + " " + joined, x.join(u, v, joined),

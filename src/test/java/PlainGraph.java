@@ -150,37 +150,45 @@ final class PlainGraph {
         return kept;
     }
 
-    /** The colourings that use k colours, in order: all numbers of n digits to the base k, the greatest digit first. */
+    /** The colourings that use k colours, in order. */
     private List<int[]> colourings(int k) {
         List<int[]> all = new ArrayList<>();
         int[] colours = new int[n + 1];
         colours[n] = k;
-        int p = 0;
-        while (p >= 0) {
-            if (isColouring(colours, k)) {
-                all.add(colours.clone());
-            }
-            p = n - 1;
-            while (p >= 0 && colours[p] == k - 1) {
-                colours[p] = 0;
-                p--;
-            }
-            if (p >= 0) {
-                colours[p]++;
-            }
-        }
+        colourFrom(0, colours, k, all);
         return all;
     }
 
-    private boolean isColouring(int[] colours, int k) {
-        int used = 0;
-        for (int u = 0; u < n; u++) {
-            used |= 1 << colours[u];
-            for (int v = 0; v < u; v++) {
-                if (joined[u][v] && colours[u] == colours[v]) {
-                    return false;
-                }
+    /** Goes on with point p in every way: all colours from 0 to k - 1, the smaller first. */
+    private void colourFrom(int p, int[] colours, int k, List<int[]> all) {
+        if (p == n) {
+            if (usesAll(colours, k)) {
+                all.add(colours.clone());
             }
+            return;
+        }
+        for (int c = 0; c < k; c++) {
+            colours[p] = c;
+            // Whatever the later points have, a clash makes it no colouring; without this 8 points take too long.
+            if (!clashes(p, colours)) {
+                colourFrom(p + 1, colours, k, all);
+            }
+        }
+    }
+
+    private boolean clashes(int p, int[] colours) {
+        for (int q = 0; q < p; q++) {
+            if (joined[p][q] && colours[p] == colours[q]) {
+                return true;
+            }
+        }
+        return false;
+    }
+
+    private boolean usesAll(int[] colours, int k) {
+        int used = 0;
+        for (int p = 0; p < n; p++) {
+            used |= 1 << colours[p];
         }
         return used == (1 << k) - 1;
     }
