@@ -2,8 +2,8 @@ import java.util.ArrayList;
 import java.util.List;
 
 /**
- * The document's words taken literally, to compare with: every colouring is written out and looked at. It shares no
- * idea with the class under test beyond the terms of the document.
+ * The document's words taken literally, to compare with: every colouring is written out and looked at, renamings of
+ * the colours too, and a graph without a point or a join is made anew; none of the short cuts of the class is used.
  */
 final class PlainGraph {
     final int n;
